@@ -15,7 +15,7 @@ public final class JoineryFloor {
     private static final int MOST_RULE = 2, LEAST_SPAN = 0, MOST_LEFT = 1, MOST_SWAPS = 50;
     private static final int MOST_TIME = 100000, MOST_REPAIR = 10000;
     private static final int MOST_ROUNDS = 20, MOST_CASES = 100, MOST_WHOLE = 8;
-    // above every bound of a machine: its steps are 8 at most for WHOLE, and a piece has 8
+    // far above what spans of 32 steps can come to
     private static final int ABOVE_BOUNDS = 1000000;
 
     private final Floor floor;
@@ -924,7 +924,7 @@ public final class JoineryFloor {
         }
     }
 
-    /** WINDOWS. Of each step the steps that it is told AHEAD of are the bits of a number, since there are 32 at most. */
+    /** WINDOWS. The steps that a step is told AHEAD of are the bits of a number, since there are 32 steps at most. */
     private static final class Windows {
         final int[] head = new int[MOST_STEPS];
         final int[] dead = new int[MOST_STEPS];

@@ -46,7 +46,8 @@ public final class FaceTest {
                 continue;
             }
             holds(m.getName() + " is of the face", due.remove(m.getName() + m.getParameterCount()));
-            holds(m.getName() + " is public", Modifier.isPublic(m.getModifiers()) && !Modifier.isStatic(m.getModifiers()));
+            holds(m.getName() + " is public", Modifier.isPublic(m.getModifiers()));
+            holds(m.getName() + " is an object's", !Modifier.isStatic(m.getModifiers()));
             holds(m.getName() + " answers an int", m.getReturnType() == int.class);
             for (Class<?> p : m.getParameterTypes()) holds(m.getName() + " takes ints", p == int.class);
         }
@@ -75,10 +76,13 @@ public final class FaceTest {
         for (Class<?> c : inside) {
             String name = c.getSimpleName();
             holds(name + " is static", Modifier.isStatic(c.getModifiers()));
-            holds(name + " is not open", !Modifier.isPublic(c.getModifiers()) && !Modifier.isProtected(c.getModifiers()));
+            holds(name + " is not public", !Modifier.isPublic(c.getModifiers()));
+            holds(name + " is not protected", !Modifier.isProtected(c.getModifiers()));
             holds(name + " has no classes", c.getDeclaredClasses().length == 0);
             holds(name + " has some twenty fields at most", c.getDeclaredFields().length <= 20);
-            for (Field f : c.getDeclaredFields()) holds(name + " has no static state", !Modifier.isStatic(f.getModifiers()));
+            for (Field f : c.getDeclaredFields()) {
+                holds(name + "." + f.getName() + " is not static", !Modifier.isStatic(f.getModifiers()));
+            }
             for (Method m : c.getDeclaredMethods()) {
                 holds(name + "." + m.getName() + " bears no public name", !List.of(Pair.CALLS).contains(m.getName()));
                 holds(name + "." + m.getName() + " takes seven at most", m.getParameterCount() <= 7);
@@ -103,7 +107,8 @@ public final class FaceTest {
         dueOnly(code, "import ([\\w.]+);", Set.of("java.util.Arrays"));
         dueOnly(code, "\\b((?:System|Math|Arrays|Integer|Long|String|Character)\\.\\w+)", Set.of("System.arraycopy",
             "Math.max", "Math.min", "Arrays.fill", "Integer.bitCount"));
-        dueOnly(code, "\\bnew (\\w+)", Set.of("int", "Floor", "Orders", "Sheets", "Day", "Windows", "Bounds", "Search"));
+        dueOnly(code, "\\bnew (\\w+)", Set.of("int", "Floor", "Orders", "Sheets", "Day", "Windows", "Bounds",
+            "Search"));
     }
 
     private static void dueOnly(String code, String pattern, Set<String> listed) {
@@ -148,13 +153,13 @@ public final class FaceTest {
 
     private static long bytes() {
         com.sun.management.ThreadMXBean bean = (com.sun.management.ThreadMXBean) ManagementFactory.getThreadMXBean();
-        return bean.getThreadAllocatedBytes(Thread.currentThread().getId());
+        return bean.getCurrentThreadAllocatedBytes();
     }
 
     /** Any call with any arguments in any state answers; what it answers is asked elsewhere. */
     private static void anyArguments() {
-        int[] edges = {Integer.MIN_VALUE, Integer.MIN_VALUE + 1, -100001, -2, -1, 0, 1, 2, 3, 4, 5, 6, 7, 8, 9, 11, 12, 31,
-            32, 33, 39, 40, 41, 50, 51, 100, 101, 1000, 1001, 10000, 100000, Integer.MAX_VALUE - 1, Integer.MAX_VALUE};
+        int[] edges = {Integer.MIN_VALUE, Integer.MIN_VALUE + 1, -100001, -2, -1, 0, 1, 2, 3, 4, 5, 6, 7, 8, 9, 11, 12,
+            31, 32, 33, 39, 40, 41, 50, 51, 100, 101, 1000, 1001, 10000, 100000, Integer.MAX_VALUE - 1, Integer.MAX_VALUE};
         Random random = new Random(11);
         Method[] methods = JoineryFloor.class.getDeclaredMethods();
         Arrays.sort(methods, (a, b) -> a.getName().compareTo(b.getName()));

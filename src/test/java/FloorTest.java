@@ -118,7 +118,9 @@ public final class FloorTest {
             new int[][] {{1, 1, 4}, {0, 1, 6}, {1, 0, 7}});
         int[][] due = {{1, 1, 4, 0, 0}, {0, 1, 6, 0, 1}, {1, 0, 7, 1, 0}};
         for (int s = 0; s < 3; s++) {
-            for (int what = 0; what < 5; what++) Due.due("5: told(" + s + ", " + what + ")", x.told(s, what), due[s][what]);
+            for (int what = 0; what < 5; what++) {
+                Due.due("5: told(" + s + ", " + what + ")", x.told(s, what), due[s][what]);
+            }
         }
         Due.due("5: what -1", x.told(0, -1), Due.OUTSIDE);
         Due.due("5: what 5", x.told(0, 5), Due.OUTSIDE);

@@ -1,4 +1,6 @@
+import java.lang.reflect.Method;
 import java.util.ArrayList;
+import java.util.Arrays;
 import java.util.List;
 
 /** An object of the class beside one of the model: each call goes to both, and unlike answers are told. */
@@ -8,26 +10,20 @@ final class Pair {
         "bound", "least", "found", "fail", "mended"};
     static final int[] ARGUMENTS = {2, 1, 3, 2, 1, 3, 1, 4, 2, 5, 2, 0, 2, 2, 0, 1, 2, 1, 1, 1, 1, 2, 2, 2, 1, 1, 3, 2};
 
+    private static final Method[] OF_CLASS = methodsOf(JoineryFloor.class);
+    private static final Method[] OF_MODEL = methodsOf(Model.class);
+
     final JoineryFloor x = new JoineryFloor();
     final Model y = new Model();
     final List<String> rows = new ArrayList<>();
     int wrong = 0;
 
-    static int numberOf(String call) {
-        for (int k = 0; k < CALLS.length; k++) if (CALLS[k].equals(call)) return k;
-        throw new IllegalArgumentException(call);
-    }
-
     int call(String name, int... a) {
-        return call(numberOf(name), a);
-    }
-
-    int call(int call, int... a) {
-        if (a.length != ARGUMENTS[call]) throw new IllegalArgumentException(CALLS[call]);
-        StringBuilder text = new StringBuilder(CALLS[call]).append('(');
+        int call = Arrays.asList(CALLS).indexOf(name);
+        StringBuilder text = new StringBuilder(name).append('(');
         for (int k = 0; k < a.length; k++) text.append(k == 0 ? "" : ", ").append(a[k]);
-        int want = ofModel(call, a);
-        int got = ofClass(call, a);
+        int want = answer(OF_MODEL[call], y, a);
+        int got = answer(OF_CLASS[call], x, a);
         rows.add(text.append(") = ").append(got).toString());
         if (got != want) {
             wrong++;
@@ -67,71 +63,23 @@ final class Pair {
         }
     }
 
-    private int ofClass(int call, int[] a) {
-        switch (CALLS[call]) {
-            case "machine": return x.machine(a[0], a[1]);
-            case "piece": return x.piece(a[0]);
-            case "step": return x.step(a[0], a[1], a[2]);
-            case "told": return x.told(a[0], a[1]);
-            case "count": return x.count(a[0]);
-            case "sheet": return x.sheet(a[0], a[1], a[2]);
-            case "tear": return x.tear(a[0]);
-            case "put": return x.put(a[0], a[1], a[2], a[3]);
-            case "at": return x.at(a[0], a[1]);
-            case "copy": return x.copy(a[0], a[1], a[2], a[3], a[4]);
-            case "read": return x.read(a[0], a[1]);
-            case "code": return x.code();
-            case "swap": return x.swap(a[0], a[1]);
-            case "lay": return x.lay(a[0], a[1]);
-            case "end": return x.end();
-            case "begin": return x.begin(a[0]);
-            case "tail": return x.tail(a[0], a[1]);
-            case "row": return x.row(a[0]);
-            case "rule": return x.rule(a[0]);
-            case "better": return x.better(a[0]);
-            case "windows": return x.windows(a[0]);
-            case "window": return x.window(a[0], a[1]);
-            case "must": return x.must(a[0], a[1]);
-            case "bound": return x.bound(a[0], a[1]);
-            case "least": return x.least(a[0]);
-            case "found": return x.found(a[0]);
-            case "fail": return x.fail(a[0], a[1], a[2]);
-            case "mended": return x.mended(a[0], a[1]);
-            default: throw new IllegalArgumentException(CALLS[call]);
+    /** The methods of the face in another class, in the row of CALLS. */
+    private static Method[] methodsOf(Class<?> type) {
+        Method[] methods = new Method[CALLS.length];
+        for (Method m : type.getDeclaredMethods()) {
+            int call = Arrays.asList(CALLS).indexOf(m.getName());
+            if (call >= 0 && m.getParameterCount() == ARGUMENTS[call]) methods[call] = m;
         }
+        return methods;
     }
 
-    private int ofModel(int call, int[] a) {
-        switch (CALLS[call]) {
-            case "machine": return y.machine(a[0], a[1]);
-            case "piece": return y.piece(a[0]);
-            case "step": return y.step(a[0], a[1], a[2]);
-            case "told": return y.told(a[0], a[1]);
-            case "count": return y.count(a[0]);
-            case "sheet": return y.sheet(a[0], a[1], a[2]);
-            case "tear": return y.tear(a[0]);
-            case "put": return y.put(a[0], a[1], a[2], a[3]);
-            case "at": return y.at(a[0], a[1]);
-            case "copy": return y.copy(a[0], a[1], a[2], a[3], a[4]);
-            case "read": return y.read(a[0], a[1]);
-            case "code": return y.code();
-            case "swap": return y.swap(a[0], a[1]);
-            case "lay": return y.lay(a[0], a[1]);
-            case "end": return y.end();
-            case "begin": return y.begin(a[0]);
-            case "tail": return y.tail(a[0], a[1]);
-            case "row": return y.row(a[0]);
-            case "rule": return y.rule(a[0]);
-            case "better": return y.better(a[0]);
-            case "windows": return y.windows(a[0]);
-            case "window": return y.window(a[0], a[1]);
-            case "must": return y.must(a[0], a[1]);
-            case "bound": return y.bound(a[0], a[1]);
-            case "least": return y.least(a[0]);
-            case "found": return y.found(a[0]);
-            case "fail": return y.fail(a[0], a[1], a[2]);
-            case "mended": return y.mended(a[0], a[1]);
-            default: throw new IllegalArgumentException(CALLS[call]);
+    private static int answer(Method method, Object of, int[] a) {
+        Object[] arguments = new Object[a.length];
+        for (int k = 0; k < a.length; k++) arguments[k] = a[k];
+        try {
+            return (int) method.invoke(of, arguments);
+        } catch (ReflectiveOperationException e) {
+            throw new IllegalStateException(method.getName() + Arrays.toString(a), e);
         }
     }
 }

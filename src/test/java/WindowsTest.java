@@ -5,6 +5,7 @@ public final class WindowsTest {
         pairs();
         sets();
         setsBurst();
+        burstBehindSets();
         setTooLong();
         refusals();
         latest();
@@ -87,7 +88,19 @@ public final class WindowsTest {
         JoineryFloor x = filled(1);
         Due.due("22: no place for step 6", x.windows(12), 0);
         dueWindow("23: both moved, as they were at its end", x, 6, 8, 2, 0);
+        dueWindow("23: its piece is not gone along once more", x, 7, 4, 12, 0);
         Due.due("24: it ends ahead of the next pairs", x.must(1, 6), 0);
+    }
+
+    /** Step 2 comes to be too narrow by the last set of all, so that it is asked only behind (d). */
+    private static void burstBehindSets() {
+        JoineryFloor x = Due.floor(new int[][] {{0, 0}, {1, 0}}, new int[] {0, 0, 0},
+            new int[][] {{0, 1, 7}, {0, 0, 3}, {1, 0, 11}, {1, 1, 1}, {2, 1, 6}, {2, 0, 1}, {2, 1, 9}});
+        Due.due("22: behind the sets", x.windows(20), 0);
+        dueWindow("23: too narrow", x, 2, 7, 10, 1);
+        dueWindow("23: the one behind it is not moved any more", x, 3, 11, 20, 0);
+        dueWindow("23: others", x, 1, 7, 20, 0);
+        dueWindow("23: others", x, 5, 6, 11, 1);
     }
 
     private static void setTooLong() {
