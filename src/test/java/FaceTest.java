@@ -159,7 +159,8 @@ public final class FaceTest {
     /** Any call with any arguments in any state answers; what it answers is asked elsewhere. */
     private static void anyArguments() {
         int[] edges = {Integer.MIN_VALUE, Integer.MIN_VALUE + 1, -100001, -2, -1, 0, 1, 2, 3, 4, 5, 6, 7, 8, 9, 11, 12,
-            31, 32, 33, 39, 40, 41, 50, 51, 100, 101, 1000, 1001, 10000, 100000, Integer.MAX_VALUE - 1, Integer.MAX_VALUE};
+            31, 32, 33, 39, 40, 41, 50, 51, 100, 101, 1000, 1001, 10000, 100000, Integer.MAX_VALUE - 1,
+            Integer.MAX_VALUE};
         Random random = new Random(11);
         Method[] methods = JoineryFloor.class.getDeclaredMethods();
         Arrays.sort(methods, (a, b) -> a.getName().compareTo(b.getName()));
