@@ -39,10 +39,10 @@ public final class FaceTest {
         holds("one public constructor without arguments", made.length == 1 && made[0].getParameterCount() == 0
             && Modifier.isPublic(made[0].getModifiers()));
         Set<String> due = new HashSet<>();
-        for (int k = 0; k < Pair.CALLS.length; k++) due.add(Pair.CALLS[k] + Pair.ARGUMENTS[k]);
+        for (int k = 0; k < Calls.NAMES.length; k++) due.add(Calls.NAMES[k] + Calls.ARGUMENTS[k]);
         for (Method m : type.getDeclaredMethods()) {
             if (Modifier.isPrivate(m.getModifiers())) {
-                holds("private " + m.getName() + " bears no public name", !List.of(Pair.CALLS).contains(m.getName()));
+                holds("private " + m.getName() + " bears no public name", !List.of(Calls.NAMES).contains(m.getName()));
                 continue;
             }
             holds(m.getName() + " is of the face", due.remove(m.getName() + m.getParameterCount()));
@@ -84,7 +84,7 @@ public final class FaceTest {
                 holds(name + "." + f.getName() + " is not static", !Modifier.isStatic(f.getModifiers()));
             }
             for (Method m : c.getDeclaredMethods()) {
-                holds(name + "." + m.getName() + " bears no public name", !List.of(Pair.CALLS).contains(m.getName()));
+                holds(name + "." + m.getName() + " bears no public name", !List.of(Calls.NAMES).contains(m.getName()));
                 holds(name + "." + m.getName() + " takes seven at most", m.getParameterCount() <= 7);
             }
         }
@@ -137,7 +137,7 @@ public final class FaceTest {
         for (int s = 0; s < 32; s++) x.step(s % 8, (s + s / 8) % 4, 1 + s * 7 % 19);
         x.sheet(0, 0, 40);
         long before = bytes();
-        for (int k = 0; k < 60; k++) {
+        for (int k = 0; k < 50; k++) {
             x.rule(k % 3);
             x.better(50);
             x.windows(x.end());

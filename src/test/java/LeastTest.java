@@ -65,8 +65,7 @@ public final class LeastTest {
                 pair.call("piece", 0);
                 for (int k = 0; k < 6; k += 2) pair.call("step", p, lines[p][k], lines[p][k + 1]);
             }
-            Due.due("26: done with " + n, pair.x.least(n), n < 15 ? 0 : 1);
-            pair.y.least(n);
+            Due.due("26: done with " + n, pair.call("least", n), n < 15 ? 0 : 1);
             pair.askAll();
             Due.due("26: as the model has it", pair.wrong, 0);
             Due.due("27: cases, of " + n, pair.x.found(1), n);

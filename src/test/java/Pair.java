@@ -1,30 +1,40 @@
 import java.lang.reflect.Method;
 import java.util.ArrayList;
-import java.util.Arrays;
 import java.util.List;
+import java.util.Set;
 
-/** An object of the class beside one of the model: each call goes to both, and unlike answers are told. */
+/**
+ * An object of the class beside one of the model: each call goes to both, and unlike answers are told. An object is
+ * good for 512 calls: when it is used up, a new one is brought to the same state by the calls that change something.
+ */
 final class Pair {
-    static final String[] CALLS = {"machine", "piece", "step", "told", "count", "sheet", "tear", "put", "at", "copy",
-        "read", "code", "swap", "lay", "end", "begin", "tail", "row", "rule", "better", "windows", "window", "must",
-        "bound", "least", "found", "fail", "mended"};
-    static final int[] ARGUMENTS = {2, 1, 3, 2, 1, 3, 1, 4, 2, 5, 2, 0, 2, 2, 0, 1, 2, 1, 1, 1, 1, 2, 2, 2, 1, 1, 3, 2};
+    static final int MOST_CALLS = 512;
+    private static final Method[] OF_MODEL = Calls.methodsOf(Model.class);
+    private static final Set<String> QUESTIONS = Set.of("told", "count", "code", "end", "begin", "tail", "row",
+        "window", "must", "bound", "found", "mended");
 
-    private static final Method[] OF_CLASS = methodsOf(JoineryFloor.class);
-    private static final Method[] OF_MODEL = methodsOf(Model.class);
-
-    final JoineryFloor x = new JoineryFloor();
+    JoineryFloor x = new JoineryFloor();
     final Model y = new Model();
     final List<String> rows = new ArrayList<>();
     int wrong = 0;
+    private final List<String> changes = new ArrayList<>();
+    private final List<int[]> changedBy = new ArrayList<>();
+    private int used = 0;
 
     int call(String name, int... a) {
-        int call = Arrays.asList(CALLS).indexOf(name);
-        StringBuilder text = new StringBuilder(name).append('(');
-        for (int k = 0; k < a.length; k++) text.append(k == 0 ? "" : ", ").append(a[k]);
-        int want = answer(OF_MODEL[call], y, a);
-        int got = answer(OF_CLASS[call], x, a);
-        rows.add(text.append(") = ").append(got).toString());
+        keepRoom(1);
+        if (!QUESTIONS.contains(name)) {
+            changes.add(name);
+            changedBy.add(a);
+        }
+        return compare(name, a);
+    }
+
+    private int compare(String name, int... a) {
+        int want = Calls.answer(OF_MODEL[Calls.numberOf(name)], y, a);
+        int got = Calls.on(x, name, a);
+        used++;
+        rows.add(Calls.text(name, a) + " = " + got);
         if (got != want) {
             wrong++;
             if (wrong == 1) {
@@ -35,6 +45,14 @@ final class Pair {
         return want;
     }
 
+    private void keepRoom(int calls) {
+        if (used + calls <= MOST_CALLS) return;
+        if (changes.size() + calls > MOST_CALLS) throw new IllegalStateException("a run of too many calls");
+        x = new JoineryFloor();
+        for (int k = 0; k < changes.size(); k++) Calls.on(x, changes.get(k), changedBy.get(k));
+        used = changes.size();
+    }
+
     /** Every question whose answer the state gives. */
     void askAll() {
         for (int what = 0; what < 5; what++) call("count", what);
@@ -43,12 +61,22 @@ final class Pair {
         for (int what = 0; what < 3; what++) call("found", what);
         int steps = y.steps.size();
         for (int i = 0; i <= steps; i++) call("row", i);
+        for (int m = 0; m < y.machines.size(); m++) {
+            for (int what = 0; what < 2; what++) call("bound", m, what);
+        }
         for (int s = 0; s < steps; s++) {
             for (int what = 0; what < 5; what++) call("told", s, what);
             call("begin", s);
             for (int what = 0; what < 2; what++) call("tail", s, what);
-            for (int what = 0; what < 3; what++) call("window", s, what);
             for (int what = 0; what < 2; what++) call("mended", s, what);
+        }
+        askWindows();
+    }
+
+    void askWindows() {
+        int steps = y.steps.size();
+        for (int s = 0; s < steps; s++) {
+            for (int what = 0; what < 3; what++) call("window", s, what);
             for (int o = 0; o < steps; o++) call("must", s, o);
         }
     }
@@ -57,29 +85,10 @@ final class Pair {
     void askSheets() {
         for (int s = 0; s < 6; s++) {
             for (int i = 0; i < 41; i++) {
-                call("at", s, i);
-                call("code");
+                keepRoom(2);
+                compare("at", s, i);
+                compare("code");
             }
-        }
-    }
-
-    /** The methods of the face in another class, in the row of CALLS. */
-    private static Method[] methodsOf(Class<?> type) {
-        Method[] methods = new Method[CALLS.length];
-        for (Method m : type.getDeclaredMethods()) {
-            int call = Arrays.asList(CALLS).indexOf(m.getName());
-            if (call >= 0 && m.getParameterCount() == ARGUMENTS[call]) methods[call] = m;
-        }
-        return methods;
-    }
-
-    private static int answer(Method method, Object of, int[] a) {
-        Object[] arguments = new Object[a.length];
-        for (int k = 0; k < a.length; k++) arguments[k] = a[k];
-        try {
-            return (int) method.invoke(of, arguments);
-        } catch (ReflectiveOperationException e) {
-            throw new IllegalStateException(method.getName() + Arrays.toString(a), e);
         }
     }
 }

@@ -15,13 +15,13 @@ public final class RandomWindowsTest {
             for (int k = 0; k < 6; k++) {
                 if (pair.call("windows", end - random.nextInt(end / 3 + 1)) == 1) open++;
                 else bursts++;
-                askWindows(pair);
+                pair.askWindows();
             }
             if (random.nextInt(4) == 0) {
                 pair.call("least", random.nextInt(12));
                 for (int what = 0; what < 3; what++) pair.call("found", what);
                 for (int s = 0; s < pair.y.steps.size(); s++) pair.call("told", s, 4);
-                askWindows(pair);
+                pair.askWindows();
             }
             if (pair.wrong > 0) {
                 wrong++;
@@ -63,13 +63,5 @@ public final class RandomWindowsTest {
             if (random.nextInt(3) > 0) pair.call("step", p, 1, 1 + random.nextInt(longest));
         }
         return pair;
-    }
-
-    private static void askWindows(Pair pair) {
-        int steps = pair.y.steps.size();
-        for (int s = 0; s < steps; s++) {
-            for (int what = 0; what < 3; what++) pair.call("window", s, what);
-            for (int o = 0; o < steps; o++) pair.call("must", s, o);
-        }
     }
 }
