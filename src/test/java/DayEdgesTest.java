@@ -223,6 +223,14 @@ public final class DayEdgesTest {
         Due.due("18: none of both", x.tail(1, 0), 0);
         Due.due("18: none of both", x.tail(2, 0), 0);
         Due.due("18: one of both", x.tail(0, 0), 4);
+        x.swap(0, 0);
+        Due.due("18: one of both, now that it is ahead", x.tail(2, 0), 5);
+        Due.due("18: one of both, now that it is last", x.tail(0, 0), 3);
+        JoineryFloor y = Due.floor(PLAINS, new int[] {0, 0}, new int[][] {{0, 0, 2}, {1, 0, 4}});
+        Due.due("18: the one behind it", y.tail(0, 0), 4);
+        y.swap(0, 0);
+        Due.due("18: none of both, now that it is last", y.tail(0, 0), 0);
+        Due.due("18: the one behind it", y.tail(1, 0), 2);
     }
 
     private static void slackOfLast() {

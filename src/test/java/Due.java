@@ -54,4 +54,16 @@ final class Due {
     static void dueOrder(String what, JoineryFloor x, int... steps) {
         for (int i = 0; i < steps.length; i++) due(what + ": place of " + steps[i], x.told(steps[i], 4), i);
     }
+
+    static void dueWindow(String what, JoineryFloor x, int step, int head, int dead, int pairs) {
+        due(what + ": HEAD of " + step, x.window(step, 0), head);
+        due(what + ": DEAD of " + step, x.window(step, 1), dead);
+        due(what + ": pairs of " + step, x.window(step, 2), pairs);
+    }
+
+    static void dueFound(String what, JoineryFloor x, int best, int cases, int finds) {
+        due(what + ": BEST", x.found(0), best);
+        due(what + ": CASES", x.found(1), cases);
+        due(what + ": how often ORDERS were found", x.found(2), finds);
+    }
 }

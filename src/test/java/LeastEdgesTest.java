@@ -33,12 +33,6 @@ public final class LeastEdgesTest {
         Due.due("25: " + what + ", WHOLE", x.bound(m, 1), whole);
     }
 
-    private static void dueFound(String what, JoineryFloor x, int best, int cases, int finds) {
-        Due.due("27: " + what + ", BEST", x.found(0), best);
-        Due.due("27: " + what + ", CASES", x.found(1), cases);
-        Due.due("27: " + what + ", how often", x.found(2), finds);
-    }
-
     private static void boundWithoutSteps() {
         JoineryFloor x = Due.floor(TWO_PLAIN, new int[] {0}, new int[][] {{0, 1, 5}});
         dueBounds("no steps", x, 0, 0, 0);
@@ -128,6 +122,12 @@ public final class LeastEdgesTest {
         JoineryFloor y = Due.floor(PLAIN_AND_DRYING, new int[] {0, 0},
             new int[][] {{0, 0, 5}, {0, 1, 4}, {1, 1, 2}, {1, 0, 2}, {1, 1, 6}});
         dueBounds("CUT is below WHOLE", y, 0, 11, 13);
+        JoineryFloor first = Due.floor(PLAIN_AND_DRYING, new int[] {0, 0},
+            new int[][] {{0, 0, 5}, {0, 1, 4}, {1, 1, 2}, {1, 0, 2}, {1, 1, 5}});
+        dueBounds("12 by number, 13 the other way", first, 0, 11, 12);
+        JoineryFloor second = Due.floor(PLAIN_AND_DRYING, new int[] {0, 0},
+            new int[][] {{1, 1, 2}, {1, 0, 2}, {1, 1, 5}, {0, 0, 5}, {0, 1, 4}});
+        dueBounds("13 by number, 12 the other way", second, 0, 11, 12);
         Due.due("25: whatever the order", y.swap(0, 0), 1);
         dueBounds("CUT is below WHOLE", y, 0, 11, 13);
     }
@@ -139,27 +139,27 @@ public final class LeastEdgesTest {
     }
 
     private static void foundAheadOfAny() {
-        dueFound("a new object", new JoineryFloor(), 0, 0, 0);
+        Due.dueFound("27: a new object", new JoineryFloor(), 0, 0, 0);
         JoineryFloor x = Due.crossing();
         x.windows(11);
         x.rule(0);
         x.better(5);
-        dueFound("ahead of any", x, 0, 0, 0);
+        Due.dueFound("27: ahead of any", x, 0, 0, 0);
         JoineryFloor y = new JoineryFloor();
         y.least(5);
-        dueFound("one that was refused", y, 0, 0, 0);
+        Due.dueFound("27: one that was refused", y, 0, 0, 0);
     }
 
     private static void foundOfRefused() {
         JoineryFloor x = Due.crossing();
         x.least(5);
-        dueFound("the latest", x, 7, 1, 1);
+        Due.dueFound("27: the latest", x, 7, 1, 1);
         for (int n : new int[] {-1, 101}) {
             Due.due("26: refused", x.least(n), Due.OUTSIDE);
-            dueFound("the latest that was not refused", x, 7, 1, 1);
+            Due.dueFound("27: the latest that was not refused", x, 7, 1, 1);
         }
         Due.due("26: 0 is not refused", x.least(0), 0);
-        dueFound("the latest", x, 7, 0, 0);
+        Due.dueFound("27: the latest", x, 7, 0, 0);
     }
 
     private static JoineryFloor manyCases() {
@@ -178,7 +178,7 @@ public final class LeastEdgesTest {
         JoineryFloor x = manyCases();
         Due.due("26: END", x.end(), 23);
         x.least(100);
-        dueFound("99 cases", x, 14, 99, 8);
+        Due.dueFound("27: 99 cases", x, 14, 99, 8);
         Due.due("26: the least day again", x.least(100), 1);
         Due.due("27: nothing less", x.found(0), 14);
         Due.due("27: nothing less", x.found(2), 0);
@@ -190,14 +190,14 @@ public final class LeastEdgesTest {
             {2, 1, 3}, {2, 0, 7}, {3, 1, 1}, {3, 0, 1}, {4, 1, 1}, {4, 0, 1}});
         Due.due("26: END", x.end(), 19);
         Due.due("26: one case too many", x.least(100), 0);
-        dueFound("100 cases", x, 15, 100, 1);
+        Due.dueFound("27: 100 cases", x, 15, 100, 1);
         Due.due("26: THE ORDERS are those found last", x.end(), 15);
     }
 
     private static void casesFromRing() {
         JoineryFloor x = Due.ring();
         Due.due("26: no case", x.least(0), 0);
-        dueFound("the sum of all SPANS and 1", x, 12, 0, 0);
+        Due.dueFound("27: the sum of all SPANS and 1", x, 12, 0, 0);
         Due.due("26: still a ring", x.end(), Due.NONE);
         JoineryFloor y = Due.floor(TWO_PLAIN, new int[] {0}, new int[][] {{0, 0, 4}, {0, 0, 5}});
         y.lay(1, 0);
@@ -211,7 +211,7 @@ public final class LeastEdgesTest {
         JoineryFloor x = Due.floor(new int[][] {{0, 0}}, new int[] {0, 0}, new int[][] {{0, 0, 4}, {1, 0, 5}});
         x.swap(0, 0);
         Due.due("26: all orders are as long", x.least(100), 1);
-        dueFound("all orders are as long", x, 9, 1, 0);
+        Due.dueFound("27: all orders are as long", x, 9, 1, 0);
         Due.dueOrder("26: as they were", x, 1, 0);
     }
 
@@ -253,9 +253,9 @@ public final class LeastEdgesTest {
         for (int span : new int[] {1, 1000}) {
             JoineryFloor x = Due.floor(TWO_PLAIN, new int[] {0}, new int[][] {{0, 0, span}});
             Due.due("26: no case", x.least(0), 0);
-            dueFound("no case", x, span, 0, 0);
+            Due.dueFound("27: no case", x, span, 0, 0);
             Due.due("26: one case", x.least(1), 1);
-            dueFound("one case", x, span, 1, 0);
+            Due.dueFound("27: one case", x, span, 1, 0);
         }
     }
 
@@ -263,6 +263,6 @@ public final class LeastEdgesTest {
         JoineryFloor x = Due.floor(new int[][] {{1, 0}}, new int[] {0, 0},
             new int[][] {{0, 0, 5}, {1, 0, 7}, {0, 0, 1}});
         Due.due("26: DRYING alone", x.least(1), 1);
-        dueFound("DRYING alone", x, 7, 1, 0);
+        Due.dueFound("27: DRYING alone", x, 7, 1, 0);
     }
 }

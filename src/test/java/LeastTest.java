@@ -16,31 +16,25 @@ public final class LeastTest {
         Due.finish();
     }
 
-    private static void dueFound(String what, JoineryFloor x, int best, int cases, int finds) {
-        Due.due(what + ": found(0)", x.found(0), best);
-        Due.due(what + ": found(1)", x.found(1), cases);
-        Due.due(what + ": found(2)", x.found(2), finds);
-    }
-
     private static void crossing() {
         JoineryFloor x = Due.crossing();
-        dueFound("27: ahead of any", x, 0, 0, 0);
+        Due.dueFound("27: ahead of any", x, 0, 0, 0);
         Due.due("26: no cases", x.least(0), 0);
-        dueFound("27: no cases", x, 11, 0, 0);
+        Due.dueFound("27: no cases", x, 11, 0, 0);
         Due.due("26: as they were", x.end(), 11);
         Due.due("26: one case", x.least(1), 1);
-        dueFound("27: one case", x, 7, 1, 1);
+        Due.dueFound("27: one case", x, 7, 1, 1);
         Due.due("26: the orders are those", x.end(), 7);
         Due.dueOrder("26: the orders are those", x, 0, 3);
         Due.dueOrder("26: the orders are those", x, 2, 1);
         Due.due("26: once more", x.least(100), 1);
-        dueFound("27: none were found", x, 7, 1, 0);
+        Due.dueFound("27: none were found", x, 7, 1, 0);
     }
 
     private static void fromRing() {
         JoineryFloor x = Due.ring();
         Due.due("26: a ring, no cases", x.least(0), 0);
-        dueFound("27: the sum of spans and 1", x, 12, 0, 0);
+        Due.dueFound("27: the sum of spans and 1", x, 12, 0, 0);
         Due.due("26: the ring stays", x.end(), Due.NONE);
         Due.due("26: a ring", x.least(100), 1);
         Due.due("27: a ring", x.found(0), 7);
@@ -51,7 +45,7 @@ public final class LeastTest {
         JoineryFloor x = Due.floor(new int[][] {{0, 0}}, new int[] {0, 0, 0},
             new int[][] {{0, 0, 4}, {1, 0, 4}, {2, 0, 4}});
         Due.due("26: burst at once", x.least(100), 1);
-        dueFound("27: burst at once", x, 12, 1, 0);
+        Due.dueFound("27: burst at once", x, 12, 1, 0);
     }
 
     /** A floor that takes fifteen cases and finds orders four times; each number of cases is tried from its start. */
@@ -71,7 +65,7 @@ public final class LeastTest {
             Due.due("27: cases, of " + n, pair.x.found(1), n);
             Due.due("26: BEST is the END", pair.x.end(), pair.x.found(0));
             bests[n] = pair.x.found(0);
-            if (n == 15) dueFound("27: all", pair.x, 31, 15, 4);
+            if (n == 15) Due.dueFound("27: all", pair.x, 31, 15, 4);
         }
         Due.due("27: the first BEST", bests[0], 36);
     }
@@ -85,10 +79,10 @@ public final class LeastTest {
         int[][] machines = {{0, 0}, {0, 0}, {0, 0}, {0, 0}};
         JoineryFloor x = Due.floor(machines, new int[] {0, 0, 0, 0}, twentyAreEnough);
         Due.due("26: burst in round 20", x.least(100), 1);
-        dueFound("27: burst in round 20", x, 77, 25, 4);
+        Due.dueFound("27: burst in round 20", x, 77, 25, 4);
         JoineryFloor y = Due.floor(machines, new int[] {0, 0, 0, 0}, oneMoreWouldBe);
         Due.due("26: no burst in 20 rounds", y.least(100), 1);
-        dueFound("27: no burst in 20 rounds", y, 81, 11, 2);
+        Due.dueFound("27: no burst in 20 rounds", y, 81, 11, 2);
     }
 
     private static void refusals() {
@@ -96,19 +90,19 @@ public final class LeastTest {
         x.least(100);
         Due.due("26: -1", x.least(-1), Due.OUTSIDE);
         Due.due("26: 101", x.least(101), Due.OUTSIDE);
-        dueFound("27: of the one that was not refused", x, 7, 1, 1);
+        Due.dueFound("27: of the one that was not refused", x, 7, 1, 1);
         x.machine(2, 3);
         x.step(0, 2, 1);
         Due.due("26: no simple floor", x.least(100), Due.NOT);
         Due.due("26: OUTSIDE is ahead of NOT", x.least(101), Due.OUTSIDE);
-        dueFound("27: of the one that was not refused", x, 7, 1, 1);
+        Due.dueFound("27: of the one that was not refused", x, 7, 1, 1);
         Due.due("27: what -1", x.found(-1), Due.OUTSIDE);
         Due.due("27: what 3", x.found(3), Due.OUTSIDE);
         JoineryFloor y = Due.floor(new int[][] {{0, 0}}, new int[] {0}, new int[0][]);
         Due.due("26: no steps", y.least(100), Due.NOT);
         y.step(0, 0, 1);
         Due.due("26: one step", y.least(100), 1);
-        dueFound("27: one step", y, 1, 1, 0);
+        Due.dueFound("27: one step", y, 1, 1, 0);
     }
 
     private static void dryingStays() {
@@ -116,7 +110,7 @@ public final class LeastTest {
             new int[][] {{0, 0, 5}, {0, 1, 4}, {1, 0, 3}, {1, 1, 9}});
         x.lay(3, 0);
         Due.due("26: least", x.least(100), 1);
-        dueFound("27: least", x, 12, 1, 1);
+        Due.dueFound("27: least", x, 12, 1, 1);
         Due.dueOrder("26: the plain machine", x, 2, 0);
         Due.dueOrder("26: a drying machine's order stays", x, 3, 1);
     }

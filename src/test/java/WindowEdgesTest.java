@@ -1,7 +1,7 @@
 /** The boundary cases of section 4, and of the promises 22 to 24 on windows. */
 public final class WindowEdgesTest {
     private static final int[][] PLAIN_AND_DRYING = {{0, 0}, {1, 0}};
-    private static final int[][] TWO_PLAIN = {{0, 0}, {0, 0}, {1, 0}};
+    private static final int[][] TWO_PLAIN_AND_DRYING = {{0, 0}, {0, 0}, {1, 0}};
 
     public static void main(String[] args) {
         bounds();
@@ -31,22 +31,16 @@ public final class WindowEdgesTest {
         Due.finish();
     }
 
-    private static void dueWindow(String what, JoineryFloor x, int step, int head, int dead, int pairs) {
-        Due.due(what + ": HEAD of " + step, x.window(step, 0), head);
-        Due.due(what + ": DEAD of " + step, x.window(step, 1), dead);
-        Due.due(what + ": pairs of " + step, x.window(step, 2), pairs);
-    }
-
     private static void bounds() {
         JoineryFloor x = Due.floor(new int[][] {{1, 0}}, new int[] {0}, new int[][] {{0, 0, 1}});
         Due.due("22: T -1", x.windows(-1), Due.OUTSIDE);
         Due.due("22: T 0", x.windows(0), 0);
-        dueWindow("23: T 0", x, 0, 0, 0, 0);
+        Due.dueWindow("23: T 0", x, 0, 0, 0, 0);
         Due.due("22: T 1", x.windows(1), 1);
         Due.due("22: T 100000", x.windows(100000), 1);
-        dueWindow("23: T 100000", x, 0, 0, 100000, 0);
+        Due.dueWindow("23: T 100000", x, 0, 0, 100000, 0);
         Due.due("22: T 100001", x.windows(100001), Due.OUTSIDE);
-        dueWindow("23: the latest that was not refused", x, 0, 0, 100000, 0);
+        Due.dueWindow("23: the latest that was not refused", x, 0, 0, 100000, 0);
     }
 
     private static void withoutSteps() {
@@ -62,7 +56,7 @@ public final class WindowEdgesTest {
             JoineryFloor x = Due.floor(new int[][] {{1, 0}}, new int[] {0},
                 new int[][] {{0, 0, 2}, {0, 0, 3}, {0, 0, 4}});
             Due.due("22: spans of 9 in " + t, x.windows(t), t < 9 ? 0 : 1);
-            dueWindow("23: spans of 9 in " + t, x, 1, 2, t - 4, 0);
+            Due.dueWindow("23: spans of 9 in " + t, x, 1, 2, t - 4, 0);
         }
     }
 
@@ -79,21 +73,21 @@ public final class WindowEdgesTest {
 
     /** In the second round step 2 is too narrow behind (a), so that (b) does not move 1 and 0 any more. */
     private static void lookBehindPiecesComesFirst() {
-        JoineryFloor x = Due.floor(TWO_PLAIN, new int[] {0, 0},
+        JoineryFloor x = Due.floor(TWO_PLAIN_AND_DRYING, new int[] {0, 0},
             new int[][] {{0, 0, 6}, {0, 1, 2}, {1, 0, 1}, {1, 1, 1}});
         Due.due("22: burst behind (a)", x.windows(8), 0);
-        dueWindow("23: not moved by (b)", x, 0, 0, 6, 1);
-        dueWindow("23: not moved by (b)", x, 1, 6, 8, 0);
-        dueWindow("23: too narrow", x, 2, 6, 5, 0);
-        dueWindow("23: moved by (a)", x, 3, 7, 6, 1);
+        Due.dueWindow("23: not moved by (b)", x, 0, 0, 6, 1);
+        Due.dueWindow("23: not moved by (b)", x, 1, 6, 8, 0);
+        Due.dueWindow("23: too narrow", x, 2, 6, 5, 0);
+        Due.dueWindow("23: moved by (a)", x, 3, 7, 6, 1);
     }
 
     /** Step 3 is too narrow behind (b), so that (c) does not tell 2 ahead of 4 any more. */
     private static void lookBehindPairs() {
-        JoineryFloor x = Due.floor(TWO_PLAIN, new int[] {0, 0},
+        JoineryFloor x = Due.floor(TWO_PLAIN_AND_DRYING, new int[] {0, 0},
             new int[][] {{0, 0, 6}, {0, 1, 8}, {1, 1, 1}, {1, 0, 2}, {1, 1, 3}});
         Due.due("22: burst behind (b)", x.windows(16), 0);
-        dueWindow("23: too narrow", x, 3, 6, 5, 0);
+        Due.dueWindow("23: too narrow", x, 3, 6, 5, 0);
         Due.due("24: not told by (c)", x.must(2, 4), 0);
         Due.due("24: told ahead of it", x.must(0, 3), 1);
         Due.due("24: told ahead of it", x.must(1, 2), 2);
@@ -125,14 +119,14 @@ public final class WindowEdgesTest {
             new int[][] {{0, 0, 1}, {0, 0, 1}, {1, 0, 2}});
         Due.due("22: both cannot", y.windows(2), 0);
         Due.due("24: told ahead of it", y.must(0, 1), 1);
-        dueWindow("23: not moved", y, 2, 0, 2, 0);
+        Due.dueWindow("23: not moved", y, 2, 0, 2, 0);
     }
 
     /** A pair that is told one way on one machine, one of which neither can be on the other, in both orders. */
     private static void pairThatBurstsEndsIt() {
         for (int told = 0; told < 2; told++) {
             int bursts = 1 - told;
-            JoineryFloor x = Due.floor(TWO_PLAIN, new int[] {0, 0, 0, 0},
+            JoineryFloor x = Due.floor(TWO_PLAIN_AND_DRYING, new int[] {0, 0, 0, 0},
                 new int[][] {{0, told, 5}, {0, 2, 4}, {1, told, 3}, {1, 2, 9}, {2, bursts, 9}, {3, bursts, 8}});
             Due.due("22: 17 in 16", x.windows(16), 0);
             Due.due("24: MACHINES by number", x.must(0, 2), told == 0 ? 2 : 0);
@@ -149,7 +143,7 @@ public final class WindowEdgesTest {
         JoineryFloor x = Due.floor(new int[][] {{1, 0}}, new int[] {0, 0, 0},
             new int[][] {{0, 0, 9}, {1, 0, 8}, {2, 0, 7}});
         Due.due("22: any number at once", x.windows(9), 1);
-        for (int s = 0; s < 3; s++) dueWindow("23: not moved", x, s, 0, 9, 0);
+        for (int s = 0; s < 3; s++) Due.dueWindow("23: not moved", x, s, 0, 9, 0);
         Due.due("24: never told", x.must(0, 1), 0);
         Due.due("22: one is too long", x.windows(8), 0);
     }
@@ -159,7 +153,14 @@ public final class WindowEdgesTest {
             JoineryFloor x = Due.floor(new int[][] {{0, 0}}, new int[] {0, 0, 0},
                 new int[][] {{0, 0, 5}, {1, 0, 4}, {2, 0, 3}});
             Due.due("22: a set of 12 in " + t, x.windows(t), t < 12 ? 0 : 1);
-            for (int s = 0; s < 3; s++) dueWindow("23: a set of 12 in " + t, x, s, 0, t, 0);
+            for (int s = 0; s < 3; s++) Due.dueWindow("23: a set of 12 in " + t, x, s, 0, t, 0);
+        }
+        // with 2 ahead of each and 3 behind it, so that HEADS are 2 and DEADS T less 3
+        for (int t = 15; t < 19; t++) {
+            JoineryFloor x = Due.floor(PLAIN_AND_DRYING, new int[] {0, 0, 0}, new int[][] {{0, 1, 2}, {0, 0, 4},
+                {0, 1, 3}, {1, 1, 2}, {1, 0, 4}, {1, 1, 3}, {2, 1, 2}, {2, 0, 4}, {2, 1, 3}});
+            Due.due("22: a set of 12 from 2 to " + (t - 3), x.windows(t), t < 17 ? 0 : 1);
+            for (int s = 1; s < 9; s += 3) Due.dueWindow("23: a set of 12 from 2", x, s, 2, t - 3, 0);
         }
     }
 
@@ -168,9 +169,9 @@ public final class WindowEdgesTest {
         JoineryFloor x = Due.floor(new int[][] {{0, 0}}, new int[] {0, 0},
             new int[][] {{0, 0, 1}, {1, 0, 1}, {1, 0, 1}});
         Due.due("22: a set of 3 in 2", x.windows(2), 0);
-        dueWindow("23: not moved", x, 0, 0, 2, 1);
-        dueWindow("23: not moved", x, 1, 0, 1, 2);
-        dueWindow("23: not moved", x, 2, 1, 2, 0);
+        Due.dueWindow("23: not moved", x, 0, 0, 2, 1);
+        Due.dueWindow("23: not moved", x, 1, 0, 1, 2);
+        Due.dueWindow("23: not moved", x, 2, 1, 2, 0);
     }
 
     /**
@@ -191,7 +192,7 @@ public final class WindowEdgesTest {
         for (int span = 1; span < 5; span++) {
             JoineryFloor x = aboutSet(0, span, 0);
             Due.due("22: k of " + span, x.windows(12), 1);
-            dueWindow("23: k of " + span, x, 6, span > 2 ? 8 : 0, 12, 0);
+            Due.dueWindow("23: k of " + span, x, 6, span > 2 ? 8 : 0, 12, 0);
             Due.due("24: k of " + span, x.must(1, 6), span > 2 ? 1 : 0);
         }
     }
@@ -201,7 +202,7 @@ public final class WindowEdgesTest {
         for (int behind = 1; behind < 5; behind++) {
             JoineryFloor x = aboutSet(0, 2, behind);
             Due.due("22: " + behind + " behind k", x.windows(12), 1);
-            dueWindow("23: " + behind + " behind k", x, 6, 0, behind > 2 ? 2 : 12 - behind, behind > 2 ? 2 : 0);
+            Due.dueWindow("23: " + behind + " behind k", x, 6, 0, behind > 2 ? 2 : 12 - behind, behind > 2 ? 2 : 0);
             Due.due("24: " + behind + " behind k", x.must(6, 4), behind > 2 ? 1 : 0);
         }
     }
@@ -229,9 +230,9 @@ public final class WindowEdgesTest {
         JoineryFloor x = Due.floor(PLAIN_AND_DRYING, new int[] {0, 0},
             new int[][] {{0, 0, 1}, {1, 0, 1}, {1, 0, 1}, {1, 1, 1}});
         Due.due("22: HEAD of f", x.windows(3), 1);
-        dueWindow("23: HEAD of f", x, 0, 2, 3, 0);
-        dueWindow("23: HEAD of f", x, 1, 0, 1, 2);
-        dueWindow("23: HEAD of f", x, 2, 1, 2, 1);
+        Due.dueWindow("23: HEAD of f", x, 0, 2, 3, 0);
+        Due.dueWindow("23: HEAD of f", x, 1, 0, 1, 2);
+        Due.dueWindow("23: HEAD of f", x, 2, 1, 2, 1);
     }
 
     /** With f = 2, g = 0 step 0 itself is moved down to 4; DEAD of g is 5 for step 3 all the same. */
@@ -239,9 +240,9 @@ public final class WindowEdgesTest {
         JoineryFloor x = Due.floor(PLAIN_AND_DRYING, new int[] {0, 0, 0},
             new int[][] {{0, 0, 1}, {1, 1, 4}, {1, 0, 1}, {2, 0, 1}});
         Due.due("22: DEAD of g", x.windows(5), 1);
-        dueWindow("23: DEAD of g", x, 0, 0, 4, 1);
-        dueWindow("23: DEAD of g", x, 2, 4, 5, 0);
-        dueWindow("23: DEAD of g", x, 3, 0, 4, 1);
+        Due.dueWindow("23: DEAD of g", x, 0, 0, 4, 1);
+        Due.dueWindow("23: DEAD of g", x, 2, 4, 5, 0);
+        Due.dueWindow("23: DEAD of g", x, 3, 0, 4, 1);
     }
 
     /** A round that tells 1 ahead of 3 and moves nothing is followed by one that moves DEAD of 1 from 12 to 10. */
@@ -249,9 +250,9 @@ public final class WindowEdgesTest {
         JoineryFloor x = Due.floor(PLAIN_AND_DRYING, new int[] {0, 0},
             new int[][] {{0, 0, 6}, {0, 0, 2}, {0, 1, 3}, {1, 0, 5}});
         Due.due("22: one round more", x.windows(15), 1);
-        dueWindow("23: one round more", x, 0, 0, 8, 2);
-        dueWindow("23: one round more", x, 1, 6, 10, 1);
-        dueWindow("23: one round more", x, 3, 8, 15, 0);
+        Due.dueWindow("23: one round more", x, 0, 0, 8, 2);
+        Due.dueWindow("23: one round more", x, 1, 6, 10, 1);
+        Due.dueWindow("23: one round more", x, 3, 8, 15, 0);
     }
 
     /** Two machines, windows that get narrower by little from round to round: one bursts in round 20, one in 21. */
@@ -295,7 +296,7 @@ public final class WindowEdgesTest {
         x.step(0, 0, 4);
         for (int what = 0; what < 3; what++) Due.due("23: windows() of no steps", x.window(0, what), Due.NONE);
         x.windows(9);
-        dueWindow("23: asked anew", x, 0, 0, 9, 0);
+        Due.dueWindow("23: asked anew", x, 0, 0, 9, 0);
         x.step(0, 0, 2);
         x.step(1, 0, 3);
         for (int s = 1; s < 3; s++) {
@@ -303,7 +304,7 @@ public final class WindowEdgesTest {
             for (int o = 0; o < 3; o++) Due.due("24: came since", x.must(s, o), 0);
             Due.due("24: came since", x.must(0, s), 0);
         }
-        dueWindow("23: was there", x, 0, 0, 9, 0);
+        Due.dueWindow("23: was there", x, 0, 0, 9, 0);
         Due.due("22: with all", x.windows(9), 1);
         Due.due("24: asked anew", x.must(0, 1), 1);
     }
@@ -313,11 +314,11 @@ public final class WindowEdgesTest {
             new int[][] {{0, 0, 2}, {1, 0, 3}, {1, 0, 3}});
         Due.due("22: open", x.windows(8), 1);
         Due.due("22: burst is not refused", x.windows(7), 0);
-        dueWindow("23: the one that burst", x, 0, 0, 7, 1);
+        Due.dueWindow("23: the one that burst", x, 0, 0, 7, 1);
         Due.due("22: refused", x.windows(-1), Due.OUTSIDE);
-        dueWindow("23: the one that burst", x, 0, 0, 7, 1);
+        Due.dueWindow("23: the one that burst", x, 0, 0, 7, 1);
         Due.due("22: open again", x.windows(8), 1);
-        dueWindow("23: the latest", x, 0, 0, 8, 0);
+        Due.dueWindow("23: the latest", x, 0, 0, 8, 0);
     }
 
     /** Of 32 steps 29 are on one machine: all of the first piece go ahead of all others, for these are late. */

@@ -17,30 +17,24 @@ public final class WindowsTest {
         Due.finish();
     }
 
-    private static void dueWindow(String what, JoineryFloor x, int step, int head, int dead, int pairs) {
-        Due.due(what + ": HEAD of " + step, x.window(step, 0), head);
-        Due.due(what + ": DEAD of " + step, x.window(step, 1), dead);
-        Due.due(what + ": pairs of " + step, x.window(step, 2), pairs);
-    }
-
     private static void alongPieces() {
         JoineryFloor x = Due.floor(new int[][] {{1, 0}}, new int[] {0, 0},
             new int[][] {{0, 0, 2}, {0, 0, 3}, {1, 0, 8}, {0, 0, 4}});
         Due.due("22: 20", x.windows(20), 1);
-        dueWindow("23: 20", x, 0, 0, 13, 0);
-        dueWindow("23: 20", x, 1, 2, 16, 0);
-        dueWindow("23: 20", x, 2, 0, 20, 0);
-        dueWindow("23: 20", x, 3, 5, 20, 0);
+        Due.dueWindow("23: 20", x, 0, 0, 13, 0);
+        Due.dueWindow("23: 20", x, 1, 2, 16, 0);
+        Due.dueWindow("23: 20", x, 2, 0, 20, 0);
+        Due.dueWindow("23: 20", x, 3, 5, 20, 0);
         Due.due("22: just so", x.windows(9), 1);
-        dueWindow("23: 9", x, 1, 2, 5, 0);
+        Due.dueWindow("23: 9", x, 1, 2, 5, 0);
         Due.due("22: burst", x.windows(8), 0);
-        dueWindow("23: 8", x, 0, 0, 1, 0);
-        dueWindow("23: 8", x, 1, 2, 4, 0);
-        dueWindow("23: 8", x, 3, 5, 8, 0);
+        Due.dueWindow("23: 8", x, 0, 0, 1, 0);
+        Due.dueWindow("23: 8", x, 1, 2, 4, 0);
+        Due.dueWindow("23: 8", x, 3, 5, 8, 0);
         Due.due("24: no pairs on a drying machine", x.must(0, 2), 0);
         Due.due("22: 0", x.windows(0), 0);
         Due.due("22: 100000", x.windows(100000), 1);
-        dueWindow("23: 100000", x, 3, 5, 100000, 0);
+        Due.dueWindow("23: 100000", x, 3, 5, 100000, 0);
     }
 
     private static void pairs() {
@@ -48,14 +42,14 @@ public final class WindowsTest {
             new int[][] {{0, 0, 5}, {0, 1, 4}, {1, 0, 3}, {1, 1, 9}});
         Due.due("22: both ways", x.windows(17), 1);
         Due.due("24: neither", x.must(0, 2), 0);
-        dueWindow("23: 17", x, 0, 0, 13, 0);
+        Due.dueWindow("23: 17", x, 0, 0, 13, 0);
         Due.due("22: one way", x.windows(16), 1);
         Due.due("24: the second", x.must(0, 2), 2);
         Due.due("24: the first", x.must(2, 0), 1);
         Due.due("24: one and the same", x.must(2, 2), 0);
-        dueWindow("23: 16", x, 0, 3, 12, 0);
-        dueWindow("23: 16", x, 2, 0, 7, 1);
-        dueWindow("23: 16", x, 1, 8, 16, 0);
+        Due.dueWindow("23: 16", x, 0, 3, 12, 0);
+        Due.dueWindow("23: 16", x, 2, 0, 7, 1);
+        Due.dueWindow("23: 16", x, 1, 8, 16, 0);
         Due.due("22: just so", x.windows(12), 1);
         Due.due("22: no way", x.windows(11), 0);
         JoineryFloor y = Due.floor(new int[][] {{0, 0}}, new int[] {0, 0}, new int[][] {{0, 0, 5}, {1, 0, 4}});
@@ -75,9 +69,9 @@ public final class WindowsTest {
     private static void sets() {
         JoineryFloor x = filled(0);
         Due.due("22: sets", x.windows(12), 1);
-        dueWindow("23: sets", x, 1, 2, 8, 1);
-        dueWindow("23: sets", x, 4, 2, 8, 1);
-        dueWindow("23: sets", x, 6, 8, 12, 0);
+        Due.dueWindow("23: sets", x, 1, 2, 8, 1);
+        Due.dueWindow("23: sets", x, 4, 2, 8, 1);
+        Due.dueWindow("23: sets", x, 6, 8, 12, 0);
         Due.due("24: sets", x.must(1, 6), 1);
         Due.due("24: sets", x.must(6, 1), 2);
         Due.due("24: sets", x.must(4, 6), 1);
@@ -87,8 +81,8 @@ public final class WindowsTest {
     private static void setsBurst() {
         JoineryFloor x = filled(1);
         Due.due("22: no place for step 6", x.windows(12), 0);
-        dueWindow("23: both moved, as they were at its end", x, 6, 8, 2, 0);
-        dueWindow("23: its piece is not gone along once more", x, 7, 4, 12, 0);
+        Due.dueWindow("23: both moved, as they were at its end", x, 6, 8, 2, 0);
+        Due.dueWindow("23: its piece is not gone along once more", x, 7, 4, 12, 0);
         Due.due("24: it ends ahead of the next pairs", x.must(1, 6), 0);
     }
 
@@ -97,10 +91,10 @@ public final class WindowsTest {
         JoineryFloor x = Due.floor(new int[][] {{0, 0}, {1, 0}}, new int[] {0, 0, 0},
             new int[][] {{0, 1, 7}, {0, 0, 3}, {1, 0, 11}, {1, 1, 1}, {2, 1, 6}, {2, 0, 1}, {2, 1, 9}});
         Due.due("22: behind the sets", x.windows(20), 0);
-        dueWindow("23: too narrow", x, 2, 7, 10, 1);
-        dueWindow("23: the one behind it is not moved any more", x, 3, 11, 20, 0);
-        dueWindow("23: others", x, 1, 7, 20, 0);
-        dueWindow("23: others", x, 5, 6, 11, 1);
+        Due.dueWindow("23: too narrow", x, 2, 7, 10, 1);
+        Due.dueWindow("23: the one behind it is not moved any more", x, 3, 11, 20, 0);
+        Due.dueWindow("23: others", x, 1, 7, 20, 0);
+        Due.dueWindow("23: others", x, 5, 6, 11, 1);
     }
 
     private static void setTooLong() {
@@ -108,9 +102,9 @@ public final class WindowsTest {
         JoineryFloor x = Due.floor(new int[][] {{0, 0}}, new int[] {0, 0, 0},
             new int[][] {{0, 0, 4}, {1, 0, 4}, {2, 0, 4}});
         Due.due("22: three in 11", x.windows(11), 0);
-        dueWindow("23: three in 11", x, 2, 0, 11, 0);
+        Due.dueWindow("23: three in 11", x, 2, 0, 11, 0);
         Due.due("22: three in 12", x.windows(12), 1);
-        dueWindow("23: three in 12", x, 2, 0, 12, 0);
+        Due.dueWindow("23: three in 12", x, 2, 0, 12, 0);
     }
 
     private static void refusals() {
@@ -137,7 +131,7 @@ public final class WindowsTest {
         JoineryFloor x = filled(0);
         x.windows(12);
         Due.due("22: refused", x.windows(-1), Due.OUTSIDE);
-        dueWindow("23: of the one that was not refused", x, 6, 8, 12, 0);
+        Due.dueWindow("23: of the one that was not refused", x, 6, 8, 12, 0);
         x.step(2, 0, 9);
         Due.due("23: a step that came since", x.window(7, 0), Due.NONE);
         Due.due("23: a step that came since", x.window(7, 2), Due.NONE);
@@ -147,14 +141,14 @@ public final class WindowsTest {
         x.machine(3, 2);
         x.step(2, 2, 1);
         Due.due("22: no simple floor now", x.windows(50), Due.NOT);
-        dueWindow("23: still there", x, 1, 2, 8, 1);
+        Due.dueWindow("23: still there", x, 1, 2, 8, 1);
         Due.due("24: still there", x.must(1, 6), 1);
         JoineryFloor y = filled(0);
         y.windows(12);
         y.least(10);
-        dueWindow("23: least() is another", y, 6, 8, 12, 0);
+        Due.dueWindow("23: least() is another", y, 6, 8, 12, 0);
         y.windows(100);
-        dueWindow("23: nothing is told ahead from before", y, 1, 2, 96, 0);
+        Due.dueWindow("23: nothing is told ahead from before", y, 1, 2, 96, 0);
         Due.due("24: nothing is told ahead from before", y.must(1, 6), 0);
     }
 
