@@ -25,6 +25,7 @@ public final class LeastEdgesTest {
         leastWithoutSteps();
         leastOfOneStep();
         leastOfDrying();
+        leastOfEightMachines();
         Due.finish();
     }
 
@@ -264,5 +265,14 @@ public final class LeastEdgesTest {
             new int[][] {{0, 0, 5}, {1, 0, 7}, {0, 0, 1}});
         Due.due("26: DRYING alone", x.least(1), 1);
         Due.dueFound("27: DRYING alone", x, 7, 1, 0);
+    }
+
+    /** The crossing of two pieces, on the last two of eight machines. */
+    private static void leastOfEightMachines() {
+        JoineryFloor x = Due.floor(new int[8][2], new int[] {0, 0},
+            new int[][] {{0, 6, 3}, {0, 7, 2}, {1, 7, 2}, {1, 6, 4}});
+        Due.due("26: eight machines", x.least(100), 1);
+        Due.dueFound("27: eight machines", x, 7, 1, 1);
+        Due.dueOrder("26: the last machine", x, 2, 1);
     }
 }

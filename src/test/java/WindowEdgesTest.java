@@ -28,6 +28,7 @@ public final class WindowEdgesTest {
         stepsThatCameSince();
         latestNotRefused();
         ahead32();
+        behind32();
         Due.finish();
     }
 
@@ -332,5 +333,19 @@ public final class WindowEdgesTest {
         Due.due("23: 29 on one machine", x.window(0, 2) >= 21 ? 1 : 0, 1);
         Due.due("24: the first and the last", x.must(0, 31), 1);
         Due.due("24: the last and the first", x.must(31, 0), 2);
+    }
+
+    /** Of 32 steps 27 fill 0 to 27, as 30 is to be done behind them: step 0, which could be at 0, goes behind all. */
+    private static void behind32() {
+        JoineryFloor x = Due.floor(PLAIN_AND_DRYING, new int[] {0, 0, 0, 0, 0}, new int[][] {{0, 0, 5}});
+        for (int p = 1; p < 5; p++) {
+            int steps = p == 4 ? 7 : 8;
+            for (int k = 1; k <= steps; k++) x.step(p, k == steps ? 1 : 0, k == steps ? 30 : 1);
+        }
+        Due.due("22: 32 steps", x.count(2), 32);
+        Due.due("22: 27 fill it", x.windows(57), 1);
+        Due.dueWindow("23: behind all", x, 0, 27, 57, 0);
+        for (int s = 1; s < 32; s++) Due.due("24: ahead of 0, step " + s, x.must(0, s), x.told(s, 1) == 0 ? 2 : 0);
+        Due.due("22: one less", x.windows(56), 0);
     }
 }
