@@ -23,6 +23,7 @@ public final class WindowEdgesTest {
         headOfFAsItWas();
         deadOfGAsItWas();
         toldPairIsChange();
+        pairToldAlready();
         twentyRounds();
         aheadOfAny();
         stepsThatCameSince();
@@ -266,6 +267,17 @@ public final class WindowEdgesTest {
             {1, 1, 14}};
         dueAsModel("22: burst in round 20", inTwenty, 96, 0);
         dueAsModel("22: burst would come in round 21", inOneMore, 94, 1);
+    }
+
+    /** In round 4 neither 2 nor 10 can be ahead any more; 2 is told ahead already, so (c) passes by, and (d) bursts. */
+    private static void pairToldAlready() {
+        JoineryFloor x = Due.floor(PLAIN_AND_DRYING, new int[] {0, 0, 0},
+            new int[][] {{0, 0, 1}, {0, 1, 3}, {0, 0, 3}, {0, 1, 3}, {0, 0, 3}, {1, 1, 3}, {1, 0, 3}, {1, 1, 1},
+                {1, 0, 1}, {1, 1, 2}, {1, 0, 2}, {1, 1, 6}, {2, 0, 4}, {2, 0, 2}, {2, 1, 1}, {2, 0, 1}, {2, 1, 2}});
+        Due.due("22: told already", x.windows(21), 0);
+        Due.dueWindow("23: told already", x, 2, 10, 13, 4);
+        Due.dueWindow("23: told already", x, 10, 13, 10, 3);
+        Due.due("24: told already", x.must(10, 2), 2);
     }
 
     private static void dueAsModel(String what, int[][] steps, int t, int want) {
